@@ -75,6 +75,71 @@ final class Check {
     return barn.teach();
   }
 
+  /** One test of one sentence of the document: what it throws breaks it, but not the others. */
+  static void sentence(String words, Runnable test) {
+    int before = wrong;
+    try {
+      test.run();
+    } catch (RuntimeException | StackOverflowError e) {
+      wrong++;
+      System.out.println("it ended with " + e);
+    }
+    if (wrong != before) {
+      System.out.println("BROKEN: " + words);
+    }
+  }
+
+  /** The call throws, and neither the barn nor what it will do is another one behind it. */
+  static void refused(HayBarn barn, String what, Class<? extends RuntimeException> due,
+      LongSupplier call) {
+    long before = state(barn);
+    thrown(what, due, call);
+    due("all is as ahead of " + what, state(barn), before);
+  }
+
+  /** What can be asked without hooks and told to a digest, and what would be. */
+  static long state(HayBarn barn) {
+    long state = barn.digest() * 31 + barn.errorAt();
+    state = state * 31 + barn.stepsUntilCopying();
+    state = state * 31 + barn.usedIfCopied();
+    return barn.steps() == 0 ? state : state * 31 + barn.usedAfter(7);
+  }
+
+  static void error(String text, int error, int at) {
+    HayBarn x = new HayBarn();
+    due("teach of " + text, teach(x, text), error);
+    due("errorAt of " + text, x.errorAt(), at);
+  }
+
+  /** As error(), but the text shows by a @ where the error is. */
+  static void errorHere(int error, String marked) {
+    int at = marked.indexOf('@');
+    error(marked.substring(0, at) + marked.substring(at + 1), error, at);
+  }
+
+  static void fine(String text) {
+    error(text, 0, -1);
+  }
+
+  /** The size of a bale that a step makes by the sum, with a and b as hooks that hold none. */
+  static void sizeBySum(String sum, int size) {
+    HayBarn x = taught("hook a; hook b; make a size " + sum + " ropes 2;");
+    due("work of " + sum, x.work(1), 1);
+    due("size of " + sum, x.sizeOf(0), size);
+    due("ropes of " + sum, x.ropesOf(0), 2);
+  }
+
+  /** Whether the test holds; a has a bale of size 2, b one of size 3, c none. */
+  static void holds(String test, boolean holds) {
+    HayBarn x = taught("hook a; hook b; hook c; drop a when " + test + ";");
+    x.make(0, 2, 1);
+    x.make(1, 3, 1);
+    x.tie(0, 0, 1);
+    due("work when " + test, x.work(1), holds ? 1 : 0);
+    due("a is held when " + test, x.holdsBale(0), !holds);
+    due("refused when " + test, x.stepsRefused(), 0);
+  }
+
   static HayBarn taught(String text) {
     HayBarn barn = new HayBarn();
     due("teach of " + text, teach(barn, text), 0);

@@ -103,13 +103,11 @@ public final class LanguageTest {
   }
 
   private static void error(String text, int error, int at) {
-    HayBarn x = new HayBarn();
-    Check.due("teach of " + text, Check.teach(x, text), error);
-    Check.due("errorAt of " + text, x.errorAt(), at);
+    Check.error(text, error, at);
   }
 
   private static void fine(String text) {
-    error(text, 0, -1);
+    Check.fine(text);
   }
 
   private static void tokens() {
@@ -205,11 +203,7 @@ public final class LanguageTest {
   }
 
   private static String repeated(String text, int times) {
-    StringBuilder all = new StringBuilder();
-    for (int i = 0; i < times; i++) {
-      all.append(text);
-    }
-    return all.toString();
+    return text.repeat(times);
   }
 
   private static void depth() {

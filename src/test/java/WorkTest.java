@@ -82,10 +82,7 @@ public final class WorkTest {
   }
 
   private static void size(String sum, int size) {
-    HayBarn x = Check.taught("hook a; make a size " + sum + " ropes 2;");
-    Check.due("work of " + sum, x.work(1), 1);
-    Check.due("size of " + sum, x.sizeOf(0), size);
-    Check.due("ropes of " + sum, x.ropesOf(0), 2);
+    Check.sizeBySum(sum, size);
   }
 
   private static void makeSteps() {
@@ -140,13 +137,7 @@ public final class WorkTest {
   }
 
   private static void holds(String test, boolean holds) {
-    HayBarn x = Check.taught("hook a; hook b; hook c; drop a when " + test + ";");
-    x.make(0, 2, 1);
-    x.make(1, 3, 1);
-    x.tie(0, 0, 1);
-    Check.due("work when " + test, x.work(1), holds ? 1 : 0);
-    Check.due("dropped when " + test, x.holdsBale(0), !holds);
-    Check.due("refused when " + test, x.stepsRefused(), 0);
+    Check.holds(test, holds);
   }
 
   private static void tests() {
