@@ -53,6 +53,8 @@ public final class CopyingEdgesTest {
     Check.sentence("hooks and ropes hold and lead to the same bales", CopyingEdgesTest::sameBales);
     Check.sentence("bales of the old half that are not taken over are gone, no others",
         CopyingEdgesTest::loftStays);
+    Check.sentence("those that are gone leave their places to others",
+        CopyingEdgesTest::goneLeavePlaces);
     Check.sentence("a bale of the loft that a hook holds stays there",
         CopyingEdgesTest::heldInLoft);
   }
@@ -66,6 +68,9 @@ public final class CopyingEdgesTest {
     Check.sentence("a useless bale of the half keeps none", CopyingEdgesTest::sweepOfUselessRope);
     Check.sentence("ropes of others that led to one of them lead to none",
         CopyingEdgesTest::sweepUnties);
+    Check.sentence("ropes of others: of a bale made ahead of the swept one too",
+        CopyingEdgesTest::sweepUntiesOlder);
+    Check.sentence("swept ones leave their places to others", CopyingEdgesTest::sweptLeavePlaces);
     Check.sentence("ropes of others that led to others lead there still",
         CopyingEdgesTest::sweepKeepsRopes);
     Check.sentence("their places are empty", CopyingEdgesTest::sweepEmpties);
@@ -569,6 +574,23 @@ public final class CopyingEdgesTest {
     Check.due("usedPlaces", x.usedPlaces(), 0);
   }
 
+  /** Far more bales in all than there are places for. */
+  private static void goneLeavePlaces() {
+    HayBarn x = Check.taught("barn 64;loft 0;hook a;make a size 1 ropes 3;");
+    for (int i = 0; i < 20; i++) {
+      Check.due("each step is done", x.work(100), 100);
+    }
+    Check.due("all but those of the half are gone", x.balesGone(), 2000 - x.bales());
+    Check.due("usedPlaces", x.usedPlaces(), x.bales());
+    HayBarn y = Check.taught("barn 8;hook a;");
+    for (int i = 1; i <= 300; i++) {
+      y.make(0, 8, 1);
+      y.drop(0);
+      Check.due("copyNow", y.copyNow(), 1);
+      Check.due("balesGone", y.balesGone(), i);
+    }
+  }
+
   private static void heldInLoft() {
     HayBarn x = twoInLoft();
     x.tie(0, 0, 1);
@@ -673,6 +695,34 @@ public final class CopyingEdgesTest {
         1, 2, 0, 1, 0,
         2, 2, 0, 3, 0, 0, 0,
         2, 103, 0, 0, 0);
+  }
+
+  private static void sweepUntiesOlder() {
+    HayBarn x = Check.taught("barn 20;loft 2;promote 0;hook a;hook b;");
+    x.make(0, 5, 2);
+    x.make(1, 2, 0);
+    x.tie(0, 0, 1);
+    x.tie(0, 1, 0);
+    x.copyNow();
+    Check.due("b is in the loft", x.isInLoft(1), true);
+    x.drop(1);
+    x.drop(0);
+    Check.due("sweepLoft", x.sweepLoft(), 1);
+    digest("behind it", x, 2, 0, 20, 0, 0, 1, 5, 0, 2, 1, 0, 1, 1, 1, 1,
+        0, 5, 1, 2, 0, 1,
+        0, 0);
+  }
+
+  private static void sweptLeavePlaces() {
+    HayBarn x = Check.taught("barn 9;loft 9;promote 0;hook a;");
+    for (int i = 1; i <= 120; i++) {
+      x.make(0, 9, 1);
+      x.copyNow();
+      Check.due("isInLoft", x.isInLoft(0), true);
+      x.drop(0);
+      Check.due("sweepLoft", x.sweepLoft(), 1);
+      Check.due("balesPromoted", x.balesPromoted(), i);
+    }
   }
 
   private static void sweepKeepsRopes() {

@@ -31,6 +31,7 @@ public final class LanguageEdgesTest {
     Check.sentence("2. IllegalStateException if there would be more than 2000",
         LanguageEdgesTest::feedTooMuch);
     Check.sentence("3. shortens the tape to its first bytes", LanguageEdgesTest::trimKeepsFirst);
+    Check.sentence("3. what is cut off is not read", LanguageEdgesTest::cutOff);
     Check.sentence("3. returns n", LanguageEdgesTest::trimReturns);
     Check.sentence("3. IllegalArgumentException if n is not 0 to the number of bytes",
         LanguageEdgesTest::trimWrong);
@@ -39,7 +40,11 @@ public final class LanguageEdgesTest {
   private static void teachSentences() {
     Check.sentence("4. returns 0, or the error, 1 to 5", LanguageEdgesTest::teachReturns);
     Check.sentence("4. in the place of all that was told before", LanguageEdgesTest::teachReplaces);
+    Check.sentence("4. told again and again, with errors between",
+        LanguageEdgesTest::teachAgainAndAgain);
+    Check.sentence("4. long texts again and again", LanguageEdgesTest::teachLongTexts);
     Check.sentence("4. all begins anew, without bales", LanguageEdgesTest::teachBeginsAnew);
+    Check.sentence("4. without bales, again and again", LanguageEdgesTest::teachWithoutBales);
     Check.sentence("4. if it has an error, all stays", LanguageEdgesTest::errorsKeepAll);
     Check.sentence("4. but the tape is empty", LanguageEdgesTest::errorsEmptyTape);
     Check.sentence("it is empty behind it", LanguageEdgesTest::teachEmptiesTape);
@@ -234,6 +239,30 @@ public final class LanguageEdgesTest {
     Check.due("hooks of none", x.hooks(), 0);
   }
 
+  /** Tokens that would go on, or lines that would end, with the bytes that are cut off. */
+  private static void cutOff() {
+    String[] texts = {"hook a;drop a when 1<|=2;", "hook a|b;", "barn 8|8;", "hook a|;",
+        "barn 8;h|ook a;", "hook a;drop a when 1>|=", "hook a;tie a rop|e 0 to a;",
+        "barn 8;hook abcdefghij|k;"};
+    for (String text : texts) {
+      int bytes = text.indexOf('|');
+      HayBarn x = new HayBarn();
+      Check.feed(x, text.replace("|", ""));
+      x.trim(bytes);
+      HayBarn y = new HayBarn();
+      Check.feed(y, text.substring(0, bytes));
+      Check.due("teach of " + text, x.teach(), y.teach());
+      Check.due("errorAt of " + text, x.errorAt(), y.errorAt());
+    }
+    HayBarn x = new HayBarn();
+    Check.teach(x, "====================");
+    Check.teach(x, "hook a;drop a when 1<");
+    Check.due("errorAt behind an earlier tape", x.errorAt(), 21);
+    x.trim(0);
+    Check.teach(x, "hook a;drop a when 1");
+    Check.due("errorAt of a shorter one", x.errorAt(), 20);
+  }
+
   private static void trimReturns() {
     HayBarn x = new HayBarn();
     Check.feed(x, " ".repeat(2000));
@@ -278,6 +307,70 @@ public final class LanguageEdgesTest {
     x.copyNow();
     Check.due("promote is 2 again", x.isInLoft(0), false);
     Check.due("names of ahead are none", Check.teach(x, "drop c;"), 3);
+  }
+
+  /** Each text tells the same, whatever was told before, and whether it was in error. */
+  private static void teachAgainAndAgain() {
+    String rich = "barn 40;loft 3;promote 0;hook c;hook b;hook a;drop a when has b;"
+        + "make a size 3+step ropes 2 when not has a;make b size size of a ropes 1;"
+        + "tie a rope 1 to b when 1=2 or has b;follow c by a rope 1;untie a rope 1 when 1<2;"
+        + "drop b;";
+    String poor = "hook a;make a size 2 ropes 1;drop a;tie a rope 0 to a;";
+    String[] texts = {rich, poor, "", rich, "hook b;hook a;drop a;make b size 1 ropes 3;", poor,
+        rich,
+        "loft 9;hook a;", "promote 5;hook a;make a size 9 ropes 0;", "barn 9;hook a;", poor, ""};
+    String[] errors = {"barn 64;loft 64;promote 5;" + SIX + TWENTY + "@", "barn 9;drop b;",
+        "loft 5;hook a;hook q;make q size 1+1*1-(1) ropes 1 when has q;hook q;",
+        "promote 0;barn 7;"};
+    HayBarn x = new HayBarn();
+    for (int i = 0; i < texts.length; i++) {
+      Check.due("teach " + i, Check.teach(x, texts[i]), 0);
+      HayBarn y = Check.taught(texts[i]);
+      for (int step = 0; step < 10; step++) {
+        Check.due("text " + i + " behind " + step, Check.state(x), Check.state(y));
+        if (x.hooks() > 0) {
+          Check.due("make " + i, x.make(0, 1, 1), y.make(0, 1, 1));
+          Check.due("copyNow " + i, x.copyNow(), y.copyNow());
+        }
+        if (x.steps() > 0) {
+          Check.due("work " + i, x.work(1), y.work(1));
+        }
+      }
+      Check.due("an error behind " + i, Check.teach(x, errors[i % errors.length]) != 0, true);
+    }
+  }
+
+  /** Each text has about as many tokens as there can be, and its last steps do what they tell. */
+  private static void teachLongTexts() {
+    HayBarn x = new HayBarn();
+    for (int times = 1; times <= 9; times++) {
+      String text = "barn 64;hook a;drop a when 1" + "+1".repeat(176) + "=1;make a size " + times
+          + "+1-1 ropes 0 when 1=1 and has a or not has a;drop a when 1=2;";
+      Check.due("teach " + times, Check.teach(x, text), 0);
+      Check.due("work " + times, x.work(3), 1);
+      Check.due("size " + times, x.sizeOf(0), times);
+      Check.due("an error behind it", Check.teach(x, text + "barn 7;"), 5);
+      Check.due("work behind it", x.work(3), 1);
+    }
+  }
+
+  private static void teachWithoutBales() {
+    HayBarn x = new HayBarn();
+    for (int times = 0; times < 4; times++) {
+      Check.due("teach", Check.teach(x, "barn 64;loft 64;promote 0;hook a;hook b;"), 0);
+      for (int i = 0; i < 64; i++) {
+        Check.due("make", x.make(0, 1, 2), i);
+        x.tie(0, 0, 0);
+        if (i > 0) {
+          x.tie(0, 1, 1);
+        }
+        x.follow(1, 0, 0);
+      }
+      Check.due("no copying", x.copyings(), 0);
+      Check.due("bales", x.bales(), 64);
+      Check.due("none is gone", x.copyNow(), 0);
+      Check.due("all are promoted", x.balesInLoft(), 64);
+    }
   }
 
   private static void teachBeginsAnew() {
@@ -730,6 +823,8 @@ public final class LanguageEdgesTest {
     Check.errorHere(1, when("age of @1=1"));
     Check.errorHere(1, when("@+1=1"));
     Check.errorHere(1, when("min @1,2=1"));
+    Check.errorHere(1, when("min@=1"));
+    Check.errorHere(1, "hook a;make a size max @ropes 1;");
   }
 
   private static void noToken() {

@@ -80,6 +80,14 @@ public final class WorkEdgesTest {
         WorkEdgesTest::usedAfterNumbers);
     Check.sentence("38. IllegalStateException if no step is told", WorkEdgesTest::usedAfterWithout);
     Check.sentence("38. (nothing is changed)", WorkEdgesTest::usedAfterChangesNothing);
+    Check.sentence("37. 38. 39. asked first in any state", WorkEdgesTest::askedFirst);
+    Check.sentence("37. 38. 39. asked first with all bales there can be",
+        WorkEdgesTest::askedFirstOfMany);
+    Check.sentence("37. 38. 39. asked first behind another teach", WorkEdgesTest::askedBehindTeach);
+    Check.sentence("38. sums and tests are reckoned as they would be",
+        WorkEdgesTest::wouldBeReckoned);
+    Check.sentence("38. bales gone by a copying that would be leave their places",
+        WorkEdgesTest::wouldBeGone);
     Check.sentence("39. behind a copying now", WorkEdgesTest::usedIfCopied);
     Check.sentence("39. without those that would be promoted", WorkEdgesTest::usedIfPromoted);
     Check.sentence("39. (nothing is changed)", WorkEdgesTest::usedIfChangesNothing);
@@ -89,6 +97,7 @@ public final class WorkEdgesTest {
     Check.sentence("40. the mean size of all bales", WorkEdgesTest::meanSize);
     Check.sentence("40. 0 without any", WorkEdgesTest::meanOfNone);
     Check.sentence("41. d starts with 971", WorkEdgesTest::digestOfNew);
+    Check.sentence("41. the counts, in their order", WorkEdgesTest::digestOfCounts);
     Check.sentence("41. wraps around as a 64-bit integer", WorkEdgesTest::digestWraps);
     Check.sentence("41. each bale of the half, behind these of the loft, by their places",
         WorkEdgesTest::digestOfBales);
@@ -775,6 +784,148 @@ public final class WorkEdgesTest {
     }
   }
 
+  /** Loft, half and steps that ask for all that there is; so many steps went by. */
+  private static HayBarn rich(int steps) {
+    HayBarn x = Check.taught("barn 14;loft 7;promote 1;hook a;hook b;hook c;"
+        + "make a size 2+age of b ropes 2;tie a rope 0 to b;follow c by a rope 0 when bales>2;"
+        + "make b size 1+copies ropes 1 when free>3 or bales=4;tie b rope 0 to a when not has c;"
+        + "drop a when step>9 and used>5;untie c rope 0 when size of c=2;drop c when age of c=1;");
+    x.make(1, 3, 1);
+    for (int i = 0; i < steps; i++) {
+      x.work(1);
+      if (i % 23 == 22) {
+        x.sweepLoft();
+      }
+    }
+    return x;
+  }
+
+  private static void askedFirst() {
+    for (int steps = 0; steps < 60; steps++) {
+      HayBarn done = rich(steps);
+      int copyings = done.copyings();
+      int first = -1;
+      for (int i = 1; i <= 100; i++) {
+        done.work(1);
+        first = first < 0 && done.copyings() > copyings ? i : first;
+        Check.due("usedAfter " + i + " of " + steps, rich(steps).usedAfter(i), done.usedPlaces());
+      }
+      Check.due("stepsUntilCopying of " + steps, rich(steps).stepsUntilCopying(), first);
+      HayBarn copied = rich(steps);
+      copied.copyNow();
+      Check.due("usedIfCopied of " + steps, rich(steps).usedIfCopied(), copied.usedPlaces());
+    }
+  }
+
+  /** A full loft at whose last place one leads to a chain through all of a full half. */
+  private static HayBarn many() {
+    HayBarn x = Check.taught("barn 64;loft 64;promote 0;hook a;hook b;make a size 1 ropes 0;"
+        + "drop b when bales=128;");
+    for (int i = 0; i < 64; i++) {
+      x.make(0, 1, 3);
+      x.tie(0, 2, 0);
+      if (i > 0) {
+        x.tie(0, 0, 1);
+      }
+      x.follow(1, 0, 2);
+    }
+    x.copyNow();
+    for (int i = 0; i < 63; i++) {
+      x.follow(1, 1, 0);
+    }
+    for (int i = 0; i < 64; i++) {
+      x.make(0, 1, 3);
+      x.tie(1, 1, 0);
+      x.tie(0, 0, 0);
+      x.follow(1, 0, 0);
+    }
+    return x;
+  }
+
+  private static void askedFirstOfMany() {
+    HayBarn x = many();
+    Check.due("bales", x.bales(), 128);
+    x.drop(0);
+    x.drop(1);
+    Check.due("all are useless", x.uselessBales(), 128);
+    Check.due("usedIfCopied", x.usedIfCopied(), 64);
+    Check.due("none would be gone", x.copyNow(), 0);
+    HayBarn y = many();
+    Check.due("usedAfter", y.usedAfter(1), 64);
+    HayBarn z = many();
+    Check.due("stepsUntilCopying", z.stepsUntilCopying(), 1);
+    HayBarn w = many();
+    w.work(1);
+    Check.due("refused", w.stepsRefused(), 1);
+    Check.due("128 are told to the next step", w.work(1), 1);
+  }
+
+  /** One step of what would be, done only if the test holds. */
+  private static void wouldHold(String test) {
+    for (int not = 0; not < 2; not++) {
+      HayBarn x = Check.taught("barn 20;loft 4;promote 1;hook a;hook b;hook c;hook d;drop d;"
+          + "make d size 5 ropes 0 when " + (not == 0 ? test : "not [" + test + "]") + ";");
+      x.make(0, 3, 2);
+      x.make(1, 6, 2);
+      x.copyNow();
+      x.copyNow();
+      x.tie(0, 0, 0);
+      x.follow(2, 0, 0);
+      x.make(3, 2, 0);
+      x.work(1);
+      Check.due("usedAfter when " + not + test, x.usedAfter(1), not == 0 ? 13 : 8);
+    }
+  }
+
+  private static void wouldBeReckoned() {
+    wouldHold("step=1");
+    wouldHold("used=8");
+    wouldHold("free=12");
+    wouldHold("copies=2");
+    wouldHold("bales=3");
+    wouldHold("size of a=3 and size of b=6");
+    wouldHold("age of a=1 and age of b=2");
+    wouldHold("has a and has b and has c and not has d");
+    wouldHold("same a c and same c a and not same a b and not same a d");
+  }
+
+  /** The loft is full of bales that are held by a chain, the half of useless ones. */
+  private static void wouldBeGone() {
+    String text = "barn 64;loft 64;promote 0;hook a;hook b;make b size 1 ropes 0;";
+    for (int steps = 1; steps <= 66; steps++) {
+      HayBarn x = Check.taught(text);
+      for (int i = 0; i < 64; i++) {
+        x.make(1, 1, 2);
+        x.tie(1, 1, 1);
+        if (i > 0) {
+          x.tie(1, 0, 0);
+        }
+        x.follow(0, 1, 1);
+      }
+      x.copyNow();
+      for (int i = 0; i < 64; i++) {
+        x.make(1, 1, 2);
+      }
+      x.drop(1);
+      Check.due("bales", x.bales(), 128);
+      Check.due("usedAfter " + steps, x.usedAfter(steps), steps <= 64 ? steps : steps - 63);
+      Check.due("usedPlaces", x.usedPlaces(), 64);
+    }
+  }
+
+  private static void askedBehindTeach() {
+    HayBarn x = rich(31);
+    x.usedAfter(50);
+    x.usedIfCopied();
+    Check.due("teach", Check.teach(x, "barn 9;loft 0;hook a;make a size 4 ropes 0;drop a;"), 0);
+    Check.due("usedAfter", x.usedAfter(3), 8);
+    Check.due("stepsUntilCopying", x.stepsUntilCopying(), 5);
+    Check.due("usedIfCopied", x.usedIfCopied(), 0);
+    Check.due("teach without steps", Check.teach(x, "hook a;"), 0);
+    Check.due("stepsUntilCopying without", x.stepsUntilCopying(), -1);
+    Check.noState("usedAfter without", () -> x.usedAfter(1));
+  }
+
   private static void usedIfCopied() {
     Check.due("nothing", new HayBarn().usedIfCopied(), 0);
     HayBarn x = Check.taught("barn 64;loft 0;hook a;hook b;");
@@ -868,6 +1019,32 @@ public final class WorkEdgesTest {
     Check.due("a new object", new HayBarn().digest(), due);
     Check.due("other numbers", Check.taught("barn 8;loft 0;").digest(),
         digestBy(0, 0, 8, 0, 0, 0, 0, 0, 0, 0, 0, 0, 0, 0, 0));
+  }
+
+  private static void digestOfCounts() {
+    for (int steps = 0; steps < 60; steps++) {
+      HayBarn x = rich(steps);
+      for (int hook = 0; hook < 3; hook++) {
+        if (x.holdsBale(hook)) {
+          x.drop(hook);
+        }
+      }
+      x.sweepLoft();
+      x.copyNow();
+      Check.due("no bale is left", x.bales(), 0);
+      Check.due("digest of the counts", x.digest(), digestBy(x.hooks(), x.steps(),
+          x.placesOfHalf(), x.stepsGoneBy(), x.stepsRefused(), x.workingHalf(), x.usedPlaces(),
+          x.usedInLoft(), x.longestGap(), x.bales(), x.balesInLoft(), x.uselessBales(),
+          x.copyings(), x.balesPromoted(), x.balesGone(), 0, 0, 0));
+    }
+    HayBarn y = Check.taught("barn 24;loft 12;promote 0;hook a;drop a;drop a when 1=2;");
+    y.make(0, 3, 0);
+    y.copyNow();
+    y.make(0, 4, 0);
+    y.make(0, 2, 0);
+    y.work(4);
+    Check.due("all counts but one are other numbers", y.digest(), digestBy(1, 2, 24, 4, 1, 1, 6, 3,
+        9, 3, 1, 3, 1, 1, 0, 0, 4, 0, 0, 4, 2, 0, 0, 0, 3, 0, 0, 0));
   }
 
   private static void digestWraps() {
