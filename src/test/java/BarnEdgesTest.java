@@ -387,16 +387,14 @@ public final class BarnEdgesTest {
     Check.due("one in the loft", x.balesInLoft(), 1);
   }
 
-  /** 64 in the loft, 64 in the half, a chain by ropes, the latest one held. */
+  /** 64 in the loft, 64 in the half, a chain by ropes from the latest one to the first one. */
   private static void fullOfBales() {
     HayBarn x = Check.taught("barn 64;loft 64;promote 0;hook a;hook b;");
     for (int i = 0; i < 128; i++) {
-      x.make(1, 1, 3);
+      x.make(i % 2, 1, 3);
       if (i > 0) {
-        x.tie(1, 0, 0);
+        x.tie(i % 2, 2, 1 - i % 2);
       }
-      x.tie(1, 2, 1);
-      x.follow(0, 1, 2);
       if (i == 63) {
         x.copyNow();
       }
@@ -405,19 +403,24 @@ public final class BarnEdgesTest {
     Check.due("balesInLoft", x.balesInLoft(), 64);
     Check.due("usedPlaces", x.usedPlaces(), 64);
     Check.due("usedInLoft", x.usedInLoft(), 64);
+    Check.due("longestGap", x.longestGap(), 0);
     Check.due("uselessBales", x.uselessBales(), 0);
+    Check.due("balesPromoted", x.balesPromoted(), 64);
     Check.due("meanSize", x.meanSize(), 1.0);
-    Check.noState("one more", () -> x.make(1, 1, 0));
-    for (int i = 0; i < 127; i++) {
-      x.follow(1, 1, 0);
+    Check.noState("one more", () -> x.make(0, 1, 0));
+    Check.due("all are there still", x.bales(), 128);
+    for (int i = 0; i < 126; i++) {
+      x.follow(0, 0, 2);
     }
-    Check.due("ropesBetween", x.ropesBetween(0, 1), 127);
-    Check.due("the first one is in the loft", x.isInLoft(1), true);
-    Check.due("at its last place, as it was taken over last", x.placeOf(1), 63);
-    x.drop(0);
-    Check.due("127 are useless", x.uselessBales(), 127);
+    Check.due("ropesBetween", x.ropesBetween(1, 0), 127);
+    Check.due("the first one is in the loft", x.isInLoft(0), true);
+    Check.due("at its last place, as it was taken over last", x.placeOf(0), 63);
+    Check.due("127 are useless", x.drop(1), 127);
     Check.due("the loft's keep none of the half", x.copyNow(), 64);
-    Check.due("sweep", x.sweepLoft(), 63);
+    Check.due("sweepLoft", x.sweepLoft(), 63);
+    Check.due("drop of the first one", x.drop(0), 1);
+    Check.due("sweep of the first one", x.sweepLoft(), 1);
+    Check.due("longestGap of none", x.longestGap(), 64);
   }
 
   private static void uselessBales() {

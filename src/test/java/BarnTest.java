@@ -4,7 +4,6 @@ public final class BarnTest {
     noSuchHook();
     emptyHooks();
     making();
-    makingMany();
     makingRefused();
     tying();
     following();
@@ -105,34 +104,6 @@ public final class BarnTest {
     Check.due("balesGone", x.balesGone(), 1);
     Check.due("bales behind", x.bales(), 3);
     Check.due("usedPlaces behind", x.usedPlaces(), 12);
-  }
-
-  /** 128 bales, each of which leads to the one ahead of it. */
-  private static void makingMany() {
-    HayBarn x = Check.taught("barn 64; loft 64; promote 0; hook a; hook b;");
-    for (int i = 0; i < 128; i++) {
-      Check.due("make " + i, x.make(1, 1, 2), i % 64);
-      if (i > 0) {
-        x.tie(1, 0, 0);
-      }
-      x.tie(1, 1, 1);
-      x.follow(0, 1, 1);
-      if (i == 63) {
-        x.copyNow();
-      }
-    }
-    Check.due("bales of many", x.bales(), 128);
-    Check.due("useless of many", x.uselessBales(), 0);
-    Check.due("promoted of many", x.balesPromoted(), 64);
-    Check.noState("one more", () -> x.make(1, 1, 3));
-    Check.due("all are there still", x.bales(), 128);
-    Check.due("copyings of many", x.copyings(), 2);
-    x.drop(1);
-    Check.noState("one more without b", () -> x.make(1, 1, 3));
-    Check.due("drop of all", x.drop(0), 128);
-    Check.due("copying of many", x.copyNow(), 64);
-    Check.due("sweeping of many", x.sweepLoft(), 64);
-    Check.due("longestGap of many", x.longestGap(), 64);
   }
 
   private static void makingRefused() {

@@ -582,13 +582,6 @@ public final class CopyingEdgesTest {
     }
     Check.due("all but those of the half are gone", x.balesGone(), 2000 - x.bales());
     Check.due("usedPlaces", x.usedPlaces(), x.bales());
-    HayBarn y = Check.taught("barn 8;hook a;");
-    for (int i = 1; i <= 300; i++) {
-      y.make(0, 8, 1);
-      y.drop(0);
-      Check.due("copyNow", y.copyNow(), 1);
-      Check.due("balesGone", y.balesGone(), i);
-    }
   }
 
   private static void heldInLoft() {
@@ -713,15 +706,21 @@ public final class CopyingEdgesTest {
         0, 0);
   }
 
+  /** The steps make a chain of 64 bales, which is promoted, let go, and swept. */
   private static void sweptLeavePlaces() {
-    HayBarn x = Check.taught("barn 9;loft 9;promote 0;hook a;");
-    for (int i = 1; i <= 120; i++) {
-      x.make(0, 9, 1);
-      x.copyNow();
-      Check.due("isInLoft", x.isInLoft(0), true);
+    HayBarn x = Check.taught("barn 64;loft 64;promote 0;hook a;hook b;make b size 1 ropes 2;"
+        + "tie b rope 0 to a when has a;tie b rope 1 to b;follow a by b rope 1;");
+    for (int i = 1; i <= 6; i++) {
+      x.work(100);
+      x.work(100);
+      x.work(56);
+      Check.due("usedPlaces", x.usedPlaces(), 64);
+      Check.due("none is gone", x.copyNow(), 0);
+      Check.due("usedInLoft", x.usedInLoft(), 64);
       x.drop(0);
-      Check.due("sweepLoft", x.sweepLoft(), 1);
-      Check.due("balesPromoted", x.balesPromoted(), i);
+      x.drop(1);
+      Check.due("sweepLoft", x.sweepLoft(), 64);
+      Check.due("balesPromoted", x.balesPromoted(), 64 * i);
     }
   }
 

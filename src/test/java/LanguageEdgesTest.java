@@ -316,9 +316,8 @@ public final class LanguageEdgesTest {
         + "tie a rope 1 to b when 1=2 or has b;follow c by a rope 1;untie a rope 1 when 1<2;"
         + "drop b;";
     String poor = "hook a;make a size 2 ropes 1;drop a;tie a rope 0 to a;";
-    String[] texts = {rich, poor, "", rich, "hook b;hook a;drop a;make b size 1 ropes 3;", poor,
-        rich,
-        "loft 9;hook a;", "promote 5;hook a;make a size 9 ropes 0;", "barn 9;hook a;", poor, ""};
+    String[] texts = {rich, poor, "", rich, "hook b;hook a;drop a;make b size 1 ropes 3;",
+        "promote 5;hook a;make a size 9 ropes 0;", "barn 9;loft 9;hook a;", poor};
     String[] errors = {"barn 64;loft 64;promote 5;" + SIX + TWENTY + "@", "barn 9;drop b;",
         "loft 5;hook a;hook q;make q size 1+1*1-(1) ropes 1 when has q;hook q;",
         "promote 0;barn 7;"};
@@ -326,7 +325,7 @@ public final class LanguageEdgesTest {
     for (int i = 0; i < texts.length; i++) {
       Check.due("teach " + i, Check.teach(x, texts[i]), 0);
       HayBarn y = Check.taught(texts[i]);
-      for (int step = 0; step < 10; step++) {
+      for (int step = 0; step < 2; step++) {
         Check.due("text " + i + " behind " + step, Check.state(x), Check.state(y));
         if (x.hooks() > 0) {
           Check.due("make " + i, x.make(0, 1, 1), y.make(0, 1, 1));
@@ -343,7 +342,7 @@ public final class LanguageEdgesTest {
   /** Each text has about as many tokens as there can be, and its last steps do what they tell. */
   private static void teachLongTexts() {
     HayBarn x = new HayBarn();
-    for (int times = 1; times <= 9; times++) {
+    for (int times = 1; times <= 8; times++) {
       String text = "barn 64;hook a;drop a when 1" + "+1".repeat(176) + "=1;make a size " + times
           + "+1-1 ropes 0 when 1=1 and has a or not has a;drop a when 1=2;";
       Check.due("teach " + times, Check.teach(x, text), 0);
@@ -356,15 +355,13 @@ public final class LanguageEdgesTest {
 
   private static void teachWithoutBales() {
     HayBarn x = new HayBarn();
-    for (int times = 0; times < 4; times++) {
+    for (int times = 0; times < 3; times++) {
       Check.due("teach", Check.teach(x, "barn 64;loft 64;promote 0;hook a;hook b;"), 0);
       for (int i = 0; i < 64; i++) {
-        Check.due("make", x.make(0, 1, 2), i);
-        x.tie(0, 0, 0);
+        Check.due("make", x.make(i % 2, 1, 2), i);
         if (i > 0) {
-          x.tie(0, 1, 1);
+          x.tie(i % 2, 1, 1 - i % 2);
         }
-        x.follow(1, 0, 0);
       }
       Check.due("no copying", x.copyings(), 0);
       Check.due("bales", x.bales(), 64);

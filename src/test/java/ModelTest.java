@@ -1,15 +1,20 @@
 import java.util.ArrayList;
 import java.util.List;
 
-/** Runs of calls, drawn from a seed, on a barn and on the model: all answers have to be the same. */
+/**
+ * Runs of calls, drawn from a seed, on a barn and on the model: all answers have to be the same. A
+ * run ends ahead of the 513th call, as answers are free from there on.
+ */
 public final class ModelTest {
-  private static final int RUNS = 3000;
-  private static final int CALLS = 60;
+  private static final int RUNS = 8000;
+  private static final int CALL_LIMIT = 512;
+  private static final int CALLS_BETWEEN = 30;
 
   private long seed;
   private final HayBarn barn = new HayBarn();
   private Model model = new Model();
   private String run;
+  private int calls = 0;
 
   private ModelTest(int number) {
     seed = number * 0x9E3779B97F4A7C15L + 1;
@@ -41,10 +46,22 @@ public final class ModelTest {
     for (int tries = 0; tries < 4; tries++) {
       errors[teach(draw(3) == 0 ? mutated(program()) : program())]++;
     }
-    for (int call = 0; call < CALLS; call++) {
+    for (int call = 1; calls + 2 + callsToCompare() <= CALL_LIMIT; call++) {
       callOnce(run + ", call " + call);
-      compare(run + " behind call " + call);
+      Check.due(run + " digest behind call " + call, barn.digest(), model.digest());
+      calls += 2;
+      if (call % CALLS_BETWEEN == 0) {
+        compare(run + " behind call " + call);
+      }
     }
+    if (calls + callsToCompare() <= CALL_LIMIT) {
+      compare(run + " at its end");
+    }
+  }
+
+  /** For each hook nine calls and three ropes at most, and two for each other hook. */
+  private int callsToCompare() {
+    return 20 + model.hooks.length * (12 + 2 * model.hooks.length);
   }
 
   private int teach(String tape) {
@@ -56,6 +73,7 @@ public final class ModelTest {
       due = told.error;
       at = told.at;
     }
+    calls += tape.length() / 20 + 4;
     Check.due(run + " teach of " + tape, Check.teach(barn, tape), due);
     Check.due(run + " errorAt of " + tape, barn.errorAt(), at);
     return due;
@@ -168,7 +186,7 @@ public final class ModelTest {
   }
 
   private void callOnce(String what) {
-    switch (draw(14)) {
+    switch (draw(17)) {
       case 0, 1, 2 -> make(what);
       case 3, 4, 5 -> tie(what);
       case 6, 7 -> follow(what);
@@ -176,6 +194,8 @@ public final class ModelTest {
       case 9 -> Check.due(what + " copyNow", barn.copyNow(), model.copy());
       case 10 -> Check.due(what + " sweepLoft", barn.sweepLoft(), model.sweep());
       case 11 -> usedAfter(what);
+      case 12 -> Check.due(what + " until", barn.stepsUntilCopying(), model.untilCopying());
+      case 13 -> Check.due(what + " usedIfCopied", barn.usedIfCopied(), model.usedIfCopied());
       default -> work(what);
     }
   }
@@ -264,9 +284,10 @@ public final class ModelTest {
     }
   }
 
-  // ---- what is asked behind each call
+  // ---- what is asked now and then
 
   private void compare(String what) {
+    calls += callsToCompare();
     long[] got = {barn.hooks(), barn.steps(), barn.placesOfHalf(), barn.stepsGoneBy(),
         barn.stepsRefused(), barn.workingHalf(), barn.usedPlaces(), barn.usedInLoft(),
         barn.longestGap(), barn.bales(), barn.balesInLoft(), barn.uselessBales(), barn.copyings(),

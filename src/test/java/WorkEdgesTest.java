@@ -650,11 +650,11 @@ public final class WorkEdgesTest {
     HayBarn x = new HayBarn();
     x.feed(0x686f6f6b, 0x20613b64, 0x726f7020, 0x613b2020, 0x20202020);
     Check.due("teach of hook a;drop a;", x.teach(), 0);
-    for (int call = 3; call <= 512; call++) {
+    for (int call = 3; call <= 510; call++) {
       Check.due("work, call " + call, x.work(100), 0);
     }
-    Check.due("stepsGoneBy", x.stepsGoneBy(), 51000);
-    Check.due("stepsRefused", x.stepsRefused(), 51000);
+    Check.due("stepsGoneBy", x.stepsGoneBy(), 50800);
+    Check.due("stepsRefused", x.stepsRefused(), 50800);
   }
 
   // ---- what would be
@@ -822,22 +822,18 @@ public final class WorkEdgesTest {
     HayBarn x = Check.taught("barn 64;loft 64;promote 0;hook a;hook b;make a size 1 ropes 0;"
         + "drop b when bales=128;");
     for (int i = 0; i < 64; i++) {
-      x.make(0, 1, 3);
-      x.tie(0, 2, 0);
+      x.make(i % 2, 1, 3);
       if (i > 0) {
-        x.tie(0, 0, 1);
+        x.tie(i % 2, 0, 1 - i % 2);
       }
-      x.follow(1, 0, 2);
     }
     x.copyNow();
     for (int i = 0; i < 63; i++) {
       x.follow(1, 1, 0);
     }
     for (int i = 0; i < 64; i++) {
-      x.make(0, 1, 3);
-      x.tie(1, 1, 0);
-      x.tie(0, 0, 0);
-      x.follow(1, 0, 0);
+      x.make(i % 2, 1, 3);
+      x.tie(1 - i % 2, 1, i % 2);
     }
     return x;
   }

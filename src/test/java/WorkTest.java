@@ -265,7 +265,7 @@ public final class WorkTest {
   private static void askingChangesNothing() {
     HayBarn x = Check.taught("barn 12; loft 6; promote 1; hook a; hook b; make a size 1 + step ropes 2;"
         + "tie a rope 0 to b; tie a rope 1 to a; follow b by a rope 1 when step > 4; drop a;");
-    for (int i = 0; i < 40; i++) {
+    for (int i = 0; i < 35; i++) {
       long digest = x.digest();
       x.stepsUntilCopying();
       x.usedAfter(1 + i);
