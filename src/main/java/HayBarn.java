@@ -645,7 +645,7 @@ public final class HayBarn {
     }
   }
 
-  /** Reads the tape as a barn. Behind error 1 it sees BAD tokens only: nothing goes on with them. */
+  /** Reads the tape as a barn. Behind error 1 it sees BAD tokens only, with which nothing goes on. */
   private static final class Reader {
     private final Tokens tokens;
     private final int[] hookNames = new int[HOOK_LIMIT];
@@ -1116,7 +1116,10 @@ public final class HayBarn {
     }
 
     boolean add(int bale, int ropesAway) {
-      if (bale < 0 || bale >= BALE_LIMIT || ropes[bale] != NONE || count >= BALE_LIMIT) {
+      if (bale < 0 || bale >= BALE_LIMIT || count < 0 || count >= BALE_LIMIT) {
+        return false;
+      }
+      if (ropes[bale] != NONE) {
         return false;
       }
       ropes[bale] = ropesAway;
